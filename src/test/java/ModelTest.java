@@ -19,9 +19,100 @@ public final class ModelTest {
         for (int seed = 0; seed < 300 && wrong < 20; seed++) {
             new Run(seed).go();
         }
+        for (int seed = 0; seed < 40 && wrong < 20; seed++) {
+            new Dense(seed).go();
+        }
         System.out.println(wrong == 0 ? "all answers are as due" : wrong + " answers are not as due");
         if (wrong != 0) {
             System.exit(1);
+        }
+    }
+
+    private static void tell(String what, int got, int want) {
+        if (got != want) {
+            wrong++;
+            System.out.println(what + " answered " + got + ", due is " + want);
+        }
+    }
+
+    /** Many triples at one number, and every assignment of all four variables tried against each question. */
+    private static final class Dense {
+        final int seed;
+        final Random random;
+        final int predicates;
+        final boolean[][][] there = new boolean[16][8][16];
+        final ContinuousRows real = new ContinuousRows(1);
+
+        Dense(int seed) {
+            this.seed = seed;
+            random = new Random(seed);
+            predicates = 1 + random.nextInt(8);
+        }
+
+        void go() {
+            real.step();
+            for (int i = 0; i < 390; i++) {
+                int s = random.nextInt(16);
+                int p = random.nextInt(predicates);
+                int o = random.nextInt(16);
+                real.change(s, p, o, true);
+                there[s][p][o] = true;
+            }
+            for (int question = 0; question < 12; question++) {
+                int[][] patterns = ask(question);
+                check(question, patterns);
+            }
+        }
+
+        int[][] ask(int question) {
+            int[][] patterns = new int[1 + random.nextInt(3)][];
+            real.question(random.nextInt(3));
+            for (int k = 0; k < patterns.length; k++) {
+                int p = random.nextInt(5) == 0 ? -1 - random.nextInt(4) : random.nextInt(predicates);
+                patterns[k] = new int[] {item(), p, item()};
+                real.pattern(question, patterns[k][0], patterns[k][1], patterns[k][2]);
+            }
+            return patterns;
+        }
+
+        int item() {
+            return random.nextInt(8) == 0 ? random.nextInt(16) : -1 - random.nextInt(4);
+        }
+
+        boolean isRow(int[][] patterns, int key) {
+            int stands = 0;
+            for (int[] pattern : patterns) {
+                int[] triple = new int[3];
+                for (int i = 0; i < 3; i++) {
+                    int item = pattern[i];
+                    triple[i] = item >= 0 ? item : key >> 4 * (4 + item) & 15;
+                    stands |= item >= 0 ? 0 : 15 << 4 * (4 + item);
+                }
+                if (triple[1] > 7 || !there[triple[0]][triple[1]][triple[2]]) {
+                    return false;
+                }
+            }
+            return (key & ~stands) == 0;
+        }
+
+        void check(int question, int[][] patterns) {
+            List<Integer> keys = new ArrayList<>();
+            int[] sums = new int[4];
+            for (int key = 0; key < 65536; key++) {
+                if (isRow(patterns, key)) {
+                    keys.add(key);
+                    for (int variable = 1; variable <= 4; variable++) {
+                        sums[variable - 1] += key >> 4 * (4 - variable) & 15;
+                    }
+                }
+            }
+            String name = "dense " + seed + ", question " + question + ": ";
+            tell(name + "rows", real.rows(question, 1), keys.size());
+            tell(name + "changed", real.changed(question, 1, true), keys.size());
+            int i = random.nextInt(keys.size() + 1);
+            tell(name + "row", real.row(question, 1, 0, i), i < keys.size() ? keys.get(i) : NO);
+            int variable = 1 + random.nextInt(4);
+            tell(name + "aggregate", real.aggregate(question, 1, 0, variable), sums[variable - 1]);
         }
     }
 
@@ -377,11 +468,7 @@ public final class ModelTest {
         }
 
         void due(int call, String name, int got, int want, Object... arguments) {
-            if (got != want) {
-                wrong++;
-                System.out.println("seed " + seed + ", call " + call + ": " + name + List.of(arguments)
-                        + " answered " + got + ", due is " + want);
-            }
+            tell("seed " + seed + ", call " + call + ": " + name + List.of(arguments), got, want);
         }
     }
 }

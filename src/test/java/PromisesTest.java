@@ -312,8 +312,13 @@ public final class PromisesTest {
         due("8: came with 1", x.changed(0, 1, true), 1);
         due("8: went with 1", x.changed(0, 1, false), 2);
         due("8: went and came with 2", List.of(x.changed(0, 2, true), x.changed(0, 2, false)), List.of(0, 0));
+        int empty = x.question(0);
+        due("8: came without patterns", List.of(x.changed(empty, 0, true), x.changed(empty, 1, true)), List.of(1, 0));
+        due("8: went without patterns", List.of(x.changed(empty, 0, false), x.changed(empty, 1, false)), List.of(0, 0));
+        due("8: came with 0 whatever was asked before", List.of(x.rows(0, 1), x.changed(0, 1, false),
+                x.changed(0, 0, true), x.changed(0, 0, false)), List.of(2, 2, 3, 0));
         due("8: no number", List.of(x.changed(0, 3, true), x.changed(0, -1, false)), List.of(BAD, BAD));
-        due("8: no question", List.of(x.changed(1, 0, true), x.changed(-1, 0, false)), List.of(BAD, BAD));
+        due("8: no question", List.of(x.changed(2, 0, true), x.changed(-1, 0, false)), List.of(BAD, BAD));
     }
 
     private static void row() {
