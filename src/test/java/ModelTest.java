@@ -461,8 +461,11 @@ public final class ModelTest {
                         model.aggregate(q, n, which, variable), q, n, which, variable);
                 case 14 -> due(call, "still", real.still(q), model.still(q), q);
                 default -> {
-                    due(call, "there", real.there(n, s, p, o), model.there(n, s, p, o), n, s, p, o);
-                    due(call, "age", real.age(n, s, p, o), model.age(n, s, p, o), n, s, p, o);
+                    if (came) {
+                        due(call, "there", real.there(n, s, p, o), model.there(n, s, p, o), n, s, p, o);
+                    } else {
+                        due(call, "age", real.age(n, s, p, o), model.age(n, s, p, o), n, s, p, o);
+                    }
                 }
             }
         }

@@ -35,6 +35,12 @@ public final class Promise09RowTest extends Tests {
         due("went with 1", keys(x, 0, 1, 2), 4097, 4098);
     }
 
+    static void promise9WithZeroWhateverWasAskedBefore() {
+        ContinuousRows x = comingAndGoing();
+        due("went with 1, then came and went with 0", got(x.row(0, 1, 2, 0), x.row(0, 0, 1, 0), x.row(0, 1, 1, 0),
+                x.row(0, 0, 2, 0)), 4097, 4097, 4100, NO);
+    }
+
     static void promise9ByKeysAcrossAllVariables() {
         ContinuousRows x = new ContinuousRows(0);
         ask(x, 0, -2, -3, -1);

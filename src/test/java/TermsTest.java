@@ -223,6 +223,21 @@ public final class TermsTest extends Tests {
         due("the one in the middle is not", keys(x, ask(x, 0, -1, 0, -2, 9, 0, 9, 1, 0, 2), 0, 0));
     }
 
+    static void termsRowNeedsItsPatternsTogether() {
+        ContinuousRows x = new ContinuousRows(0);
+        x.change(1, 0, 2, true);
+        x.change(3, 0, 4, true);
+        x.change(1, 1, 2, true);
+        x.change(3, 1, 4, true);
+        x.change(1, 2, 4, true);
+        x.change(3, 2, 2, true);
+        due("each fits for itself, two together", keys(x, ask(x, 0, -1, 0, -2, -1, 1, -2), 0, 0),
+                key(1, 2, 0, 0), key(3, 4, 0, 0));
+        due("the third does not fit the others", keys(x, ask(x, 0, -1, 0, -2, -1, 1, -2, -1, 2, -2), 0, 0));
+        due("the first does not fit the others", keys(x, ask(x, 0, -1, 2, -2, -1, 1, -2, -1, 0, -2), 0, 0));
+        due("the second does not fit the others", keys(x, ask(x, 0, -4, 0, -3, -4, 2, -3, -4, 1, -3), 0, 0));
+    }
+
     static void termsRowOneVariableInManyPlaces() {
         ContinuousRows x = new ContinuousRows(0);
         x.change(3, 3, 3, true);
@@ -296,6 +311,8 @@ public final class TermsTest extends Tests {
         x.step();
         due("came with 0", keys(x, 0, 0, 1), key(3, 0, 0, 0), key(4, 0, 0, 0));
         due("went with 0", keys(x, 0, 0, 2));
+        due("with 1 none came", x.changed(0, 1, true), 0);
+        due("with 0 all the same", got(x.changed(0, 0, true), x.changed(0, 0, false)), 2, 0);
     }
 
     static void termsCameAndWentAgainstTheNumberBefore() {
@@ -310,6 +327,19 @@ public final class TermsTest extends Tests {
         due("came with 1", keys(x, 0, 1, 1), key(5, 0, 0, 0));
         due("went with 1", keys(x, 0, 1, 2), key(3, 0, 0, 0));
         due("with 2 none", got(x.changed(0, 2, true), x.changed(0, 2, false)), 0, 0);
+    }
+
+    static void termsCameAndWentBesideRowsThatStay() {
+        ContinuousRows x = new ContinuousRows(5);
+        ask(x, 0, 1, 0, -4);
+        x.change(1, 0, 3, true);
+        x.change(1, 0, 5, true);
+        x.step();
+        x.change(1, 0, 5, false);
+        x.change(1, 0, 4, true);
+        due("has at 1", keys(x, 0, 1, 0), 3, 4);
+        due("came with 1", keys(x, 0, 1, 1), 4);
+        due("went with 1", keys(x, 0, 1, 2), 5);
     }
 
     static void termsGoneAndBackAtOneNumberNeitherCameNorWent() {
